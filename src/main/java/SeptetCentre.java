@@ -84,23 +84,7 @@ public final class SeptetCentre {
             return FULL;
         }
         int kind = Row.SUBMIT + (report ? Row.REPORT_WANTED : 0) + (parts > 1 ? Row.HEADER : 0);
-        int from = 0;
-        for (int part = 1; part <= parts; part++) {
-            int end = parts == 1 ? draft.length : draft.partEnd(from);
-            int length = draft.septets(from, end) + (parts == 1 ? 0 : Row.HEADER_SEPTETS);
-            Row row = new Row(Row.submitSize(to, length), d);
-            row.putSubmitHead(kind, device.nextMessageNumber(), to, validity);
-            row.put(length);
-            if (parts > 1) {
-                row.putHeader(device.references, parts, part);
-            }
-            draft.pack(from, end, row);
-            uplink.append(row);
-            from = end;
-        }
-        if (parts > 1) {
-            device.countReference();
-        }
+        sendUp(d, to, validity, kind, parts);
         return parts;
     }
 
@@ -247,6 +231,27 @@ public final class SeptetCentre {
         }
         Device device = deviceOf(d);
         return device == null ? null : device.inbox;
+    }
+
+    private void sendUp(int d, long to, int validity, int kind, int parts) {
+        Device device = devices[d];
+        int from = 0;
+        for (int part = 1; part <= parts; part++) {
+            int end = parts == 1 ? draft.length : draft.partEnd(from);
+            int length = draft.septets(from, end) + (parts == 1 ? 0 : Row.HEADER_SEPTETS);
+            Row row = new Row(Row.submitSize(to, length), d);
+            row.putSubmitHead(kind, device.nextMessageNumber(), to, validity);
+            row.put(length);
+            if (parts > 1) {
+                row.putHeader(device.references, parts, part);
+            }
+            draft.pack(from, end, row);
+            uplink.append(row);
+            from = end;
+        }
+        if (parts > 1) {
+            device.countReference();
+        }
     }
 
     /** Where in pending the message with the earliest moment stands, or -1. */

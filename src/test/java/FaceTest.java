@@ -20,9 +20,11 @@ public final class FaceTest {
         Due due = new Due("FaceTest");
         Class<?> face = SeptetCentre.class;
         due.about("the class");
-        due.is("public and final", Modifier.isPublic(face.getModifiers()) && Modifier.isFinal(face.getModifiers()), true);
+        due.is("public", Modifier.isPublic(face.getModifiers()), true);
+        due.is("final", Modifier.isFinal(face.getModifiers()), true);
         constructors(due, face);
-        due.is("methods as in the document: " + shownMethods(due, face), shownMethods(due, face).equals(METHODS), true);
+        Set<String> methods = shownMethods(due, face);
+        due.is("methods as in the document: " + methods, methods.equals(METHODS), true);
         due.is("constants as in the document", shownConstants(due, face).equals(CONSTANTS), true);
         nested(due, face);
         due.end();

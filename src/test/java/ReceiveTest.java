@@ -133,6 +133,8 @@ public final class ReceiveTest {
         due.is("12 made to 1", x.receive(), 0);
         x = sent("abc", 123456789012L);
         due.is("twelve digits", x.receive(), 0);
+        x = sent("abc", 900000000000L);
+        due.is("zeros inside", x.receive(), 0);
         x = sent("abc", 123456789012L);
         Steps.set(x, DIGITS, 11);
         Steps.set(x, DIGIT_BYTE + 5, 0xF1);
