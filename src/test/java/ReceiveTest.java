@@ -15,6 +15,7 @@ public final class ReceiveTest {
         kinds();
         addresses();
         fillers();
+        addressesOfOtherSizes();
         middles();
         lengths();
         spareBits();
@@ -22,6 +23,7 @@ public final class ReceiveTest {
         everyCode();
         headers();
         headerLengths();
+        headerTooLong();
         headerMadeByHand();
         headerReadAsText();
         freeBytes();
@@ -139,16 +141,35 @@ public final class ReceiveTest {
         Steps.set(x, DIGITS, 11);
         Steps.set(x, DIGIT_BYTE + 5, 0xF1);
         due.is("eleven digits", x.receive(), 0);
-        // Thirteen digits, with the zeros, the validity and the length one byte further on.
-        x = sent("", 123456789012L);
-        Steps.set(x, DIGITS, 13);
-        due.is("thirteen digits", x.receive(), -6);
-        x = sent("aaaaaaaa", 123456789012L);
-        int[] values = {13, 145, 0x21, 0x43, 0x65, 0x87, 0x09, 0x21, 0xF3, 0, 0, 9, 6};
+    }
+
+    /** What receive answers to a row of n times @ whose bytes from the count of digits on are these. */
+    private static void shifted(String what, boolean legal, int n, long to, int... values) {
+        SeptetCentre x = sent("@".repeat(n), to);
         for (int k = 0; k < values.length; k++) {
             Steps.set(x, DIGITS + k, values[k]);
         }
-        due.is("thirteen digits in the right form", x.receive(), -6);
+        due.is(what, x.receive(), legal ? 0 : -6);
+    }
+
+    /** An address of another size moves all that is behind it, so that user data gets more or fewer bytes. */
+    private static void addressesOfOtherSizes() {
+        due.about("promise 8, all right but for one thing");
+        shifted("no digits", false, 8, 42, 0, 145, 0, 0, 9, 9);
+        shifted("one digit instead of two", true, 8, 42, 1, 145, 0xF4, 0, 0, 9, 8);
+        shifted("three digits", true, 8, 42, 3, 145, 0x24, 0xF1, 0, 0, 9, 6);
+        shifted("eleven digits", true, 8, 123456789012L,
+            11, 145, 0x21, 0x43, 0x65, 0x87, 0x09, 0xF1, 0, 0, 9, 8);
+        shifted("thirteen digits", false, 8, 123456789012L,
+            13, 145, 0x21, 0x43, 0x65, 0x87, 0x09, 0x21, 0xF3, 0, 0, 9, 6);
+        shifted("fourteen digits", false, 8, 123456789012L,
+            14, 145, 0x21, 0x43, 0x65, 0x87, 0x09, 0x21, 0x43, 0, 0, 9, 6);
+        shifted("ten digits and 160 septets", true, 158, 123456789012L,
+            10, 145, 0x21, 0x43, 0x65, 0x87, 0x09, 0, 0, 9, 160);
+        shifted("ten digits and 161 septets", false, 160, 123456789012L,
+            10, 145, 0x21, 0x43, 0x65, 0x87, 0x09, 0, 0, 9, 161);
+        shifted("two digits and 166 septets", false, 160, 123456789012L,
+            2, 145, 0x21, 0, 0, 9, 166);
     }
 
     private static void middles() {
@@ -257,6 +278,18 @@ public final class ReceiveTest {
             }
             due.is("header in " + n + " septets", x.receive(), n >= 7 ? 0 : -6);
         }
+    }
+
+    private static void headerTooLong() {
+        due.about("promise 8, more than 153 septets with header");
+        // With ten digits instead of twelve, user data of 140 bytes gets one more.
+        int[] plain = {10, 145, 0x21, 0x43, 0x65, 0x87, 0x09, 0, 0, 9, 161, 5, 0, 3, 0, 1, 1, 0};
+        SeptetCentre x = sent("@".repeat(160), 123456789012L);
+        x.alter(0, 64);
+        for (int k = 0; k < plain.length; k++) {
+            Steps.set(x, DIGITS + k, plain[k]);
+        }
+        due.is("154 septets", x.receive(), -6);
     }
 
     private static void headerMadeByHand() {

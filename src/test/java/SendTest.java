@@ -159,6 +159,17 @@ public final class SendTest {
             due.is("send to " + number, x.send(0, number, 0, false), 1);
             rowIs("row", Steps.row(x, -1), "17 0 " + want[digits - 1] + " 0 0 0 0");
         }
+        long power = 10;
+        for (int digits = 1; digits < 12; digits++) {
+            SeptetCentre x = Steps.ready();
+            x.send(0, power - 1, 0, false);
+            x.send(0, power, 0, false);
+            due.is("digits of " + (power - 1), x.byteAt(-1, 2), digits);
+            due.is("receive", x.receive(), 0);
+            due.is("digits of " + power, x.byteAt(-1, 2), digits + 1);
+            due.is("receive", x.receive(), 1);
+            power *= 10;
+        }
         SeptetCentre x = Steps.ready();
         x.send(0, 999999999999L, 0, false);
         rowIs("the greatest number", Steps.row(x, -1), "17 0 12 145 153 153 153 153 153 153 0 0 0 0");
