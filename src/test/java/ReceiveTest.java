@@ -295,13 +295,7 @@ public final class ReceiveTest {
     private static void headerMadeByHand() {
         due.about("promises 8 and 10, a header of one part");
         SeptetCentre x = Steps.ready();
-        x.type('@', 8);
-        x.send(0, 1002, 0, false);
-        x.alter(0, 64);
-        int[] data = {5, 0, 3, 200, 1, 1, 98 << 1};
-        for (int k = 0; k < data.length; k++) {
-            Steps.set(x, DATA + 1 + k, data[k]);
-        }
+        Steps.sendPart(x, 0, 1002, new int[] {200, 1, 1}, "b");
         due.is("receive", x.receive(), 0);
         due.is("advance(0)", x.advance(0), 1);
         due.is("kind", x.byteAt(1, 0), 68);

@@ -30,7 +30,6 @@ public final class SendTest {
         longTexts();
         fullUplink();
         countsByDevice();
-        messageNumbersGoRound();
         draftStays();
         due.end();
     }
@@ -366,38 +365,6 @@ public final class SendTest {
         x.send(0, 1002, 0, false);
         due.is("another number, the same count", x.byteAt(-1, 1), 4);
         due.is("another number, the same references", x.byteAt(-1, 13), 1);
-    }
-
-    /** Message number 0 comes again after 255, just within the 512 calls of an object. */
-    private static void messageNumbersGoRound() {
-        due.about("promise 6, 0 after 255");
-        SeptetCentre x = new SeptetCentre();
-        x.register(0, 7);
-        x.type('a', 160);
-        x.type('a', 160);
-        int calls = 3;
-        int last = -1;
-        for (int sent = 0; sent < 86; sent++) {
-            due.is("send", x.send(0, 8, 0, false), 3);
-            calls++;
-            for (int part = 0; part < (sent < 85 ? 3 : 1); part++) {
-                int row = 3 * sent + part;
-                if (row < 156) {
-                    x.alter(0, 1);
-                    calls++;
-                }
-                last = x.receive();
-                calls++;
-                if (row >= 156 && (row - 156) % 12 == 11) {
-                    x.advance(0);
-                    calls++;
-                }
-            }
-        }
-        due.is("the hundredth message", last, 99);
-        due.is("message number", x.byteAt(-1, 1), 0);
-        calls++;
-        due.is("calls are within the document's 512", calls <= 512, true);
     }
 
     private static void draftStays() {

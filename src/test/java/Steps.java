@@ -39,11 +39,44 @@ final class Steps {
         }
     }
 
+    /** Where the length stands in a SUBMIT to this number. */
+    static int lengthAt(long to) {
+        return 7 + (Long.toString(to).length() + 1) / 2;
+    }
+
+    /**
+     * Device d sends a part of its own make up into the empty uplink: seven septets of 0 at the front of a
+     * text take just the bits of a header, which is then written over them.
+     */
+    static void sendPart(SeptetCentre x, int d, long to, int[] header, String text) {
+        x.wipe();
+        x.type('@', 7);
+        type(x, text);
+        x.send(d, to, 0, false);
+        x.alter(0, 64);
+        int data = lengthAt(to) + 1;
+        int[] bytes = {5, 0, 3, header[0], header[1], header[2]};
+        for (int k = 0; k < bytes.length; k++) {
+            if (bytes[k] != 0) {
+                x.alter(data + k, bytes[k]);
+            }
+        }
+    }
+
     /** All bytes of the first row that d means in waiting. */
     static String row(SeptetCentre x, int d) {
+        return row(x, d, Integer.MAX_VALUE);
+    }
+
+    /** The first bytes of that row, at most so many. */
+    static String row(SeptetCentre x, int d, int most) {
         StringBuilder all = new StringBuilder();
-        for (int i = 0; x.byteAt(d, i) != SeptetCentre.NONE; i++) {
-            all.append(i == 0 ? "" : " ").append(x.byteAt(d, i));
+        for (int i = 0; i < most; i++) {
+            int value = x.byteAt(d, i);
+            if (value == SeptetCentre.NONE) {
+                break;
+            }
+            all.append(i == 0 ? "" : " ").append(value);
         }
         return all.toString();
     }
@@ -51,8 +84,8 @@ final class Steps {
     /** The text that device d put together last. */
     static String text(SeptetCentre x, int d) {
         StringBuilder all = new StringBuilder();
-        for (int i = 0; x.text(d, i) != SeptetCentre.NONE; i++) {
-            all.append((char) x.text(d, i));
+        for (int c = x.text(d, 0); c != SeptetCentre.NONE; c = x.text(d, all.length())) {
+            all.append((char) c);
         }
         return all.toString();
     }

@@ -46,14 +46,7 @@ public final class TakeTest {
 
     /** Device d sends one part of its own make, with a text of one character, to device 1. */
     private static void deliverPart(SeptetCentre x, int d, int reference, int parts, int part, char c) {
-        x.wipe();
-        x.type('@', 8);
-        x.send(d, 1002, 0, false);
-        x.alter(0, 64);
-        int[] data = {5, 0, 3, reference, parts, part, c << 1};
-        for (int k = 0; k < data.length; k++) {
-            Steps.set(x, 10 + k, data[k]);
-        }
+        Steps.sendPart(x, d, 1002, new int[] {reference, parts, part}, String.valueOf(c));
         due.is("receive a part", x.receive() >= 0, true);
         due.is("advance(0)", x.advance(0), 1);
     }
