@@ -84,7 +84,7 @@ public final class SeptetCentre {
             return FULL;
         }
         int kind = Row.SUBMIT + (report ? Row.REPORT_WANTED : 0) + (parts > 1 ? Row.HEADER : 0);
-        sendUp(d, to, validity, kind, parts);
+        sendUp(device, to, validity, kind, parts);
         return parts;
     }
 
@@ -106,7 +106,7 @@ public final class SeptetCentre {
             return FULL;
         }
         uplink.removeFirst();
-        Device origin = deviceOf(row.origin);
+        Device origin = row.origin;
         if (origin == null || !SubmitRules.areKept(row)) {
             return ILLEGAL;
         }
@@ -233,13 +233,12 @@ public final class SeptetCentre {
         return device == null ? null : device.inbox;
     }
 
-    private void sendUp(int d, long to, int validity, int kind, int parts) {
-        Device device = devices[d];
+    private void sendUp(Device device, long to, int validity, int kind, int parts) {
         int from = 0;
         for (int part = 1; part <= parts; part++) {
             int end = parts == 1 ? draft.length : draft.partEnd(from);
             int length = draft.septets(from, end) + (parts == 1 ? 0 : Row.HEADER_SEPTETS);
-            Row row = new Row(Row.submitSize(to, length), d);
+            Row row = new Row(Row.submitSize(to, length), device);
             row.putSubmitHead(kind, device.nextMessageNumber(), to, validity);
             row.put(length);
             if (parts > 1) {
@@ -454,7 +453,6 @@ public final class SeptetCentre {
         static final int HEADER = 64;
         static final int HEADER_SEPTETS = 7;
         static final int HEADER_BITS = 49;
-        static final int NOBODY = -1;
         static final int SUBMIT_ADDRESS_AT = 2;
         static final int DELIVER_ADDRESS_AT = 1;
         static final int MOST_DIGITS = 12;
@@ -464,10 +462,10 @@ public final class SeptetCentre {
 
         private final int[] bytes;
         private int written;
-        /** The device that sent the row up, for the rows of the uplink. */
-        final int origin;
+        /** The device that sent the row up; null for rows that the centre made. */
+        final Device origin;
 
-        Row(int size, int origin) {
+        Row(int size, Device origin) {
             this.bytes = new int[size];
             this.origin = origin;
         }
@@ -810,7 +808,7 @@ public final class SeptetCentre {
 
         Row asDeliver() {
             int data = submit.submitDataAt();
-            Row row = new Row(Row.deliverSize(from, submit.size() - data), Row.NOBODY);
+            Row row = new Row(Row.deliverSize(from, submit.size() - data), null);
             row.put(Row.DELIVER + (submit.hasHeader() ? Row.HEADER : 0));
             row.putAddress(from);
             row.put(0);
@@ -825,7 +823,7 @@ public final class SeptetCentre {
             if ((submit.at(0) & Row.REPORT_WANTED) == 0 || origin.reports.room() == 0) {
                 return;
             }
-            Row row = new Row(Row.reportSize(to), Row.NOBODY);
+            Row row = new Row(Row.reportSize(to), null);
             row.put(Row.REPORT);
             row.put(submit.at(1));
             row.putAddress(to);

@@ -3,7 +3,7 @@
  * calls that made the object it stays within the document's 512.
  */
 final class Portrait {
-    static final int VIEWS = 7;
+    static final int VIEWS = 8;
     private static final int SHOWN_MESSAGES = 20;
 
     private final SeptetCentre x;
@@ -24,7 +24,8 @@ final class Portrait {
             case 2 -> portrait.inboxes();
             case 3 -> portrait.reports();
             case 4 -> portrait.schedule();
-            case 5 -> portrait.draftAndCounts();
+            case 5 -> portrait.moments();
+            case 6 -> portrait.draftAndCounts();
             default -> portrait.devicesAndPiles();
         }
         return portrait.seen.toString();
@@ -79,12 +80,17 @@ final class Portrait {
         }
     }
 
-    /** What is still to come tells when the next offers are due, and when messages are too old. */
-    private void schedule() {
+    private int messages() {
         int count = 0;
         while (x.state(count) != SeptetCentre.NONE) {
             count++;
         }
+        return count;
+    }
+
+    /** What is still to come tells when messages are too old, and which devices are on. */
+    private void schedule() {
+        int count = messages();
         see("messages", count);
         for (int by : new int[] {0, 1, 4, 16, 1000}) {
             for (int m = Math.max(0, count - SHOWN_MESSAGES); m < count; m++) {
@@ -98,6 +104,31 @@ final class Portrait {
         }
     }
 
+    private void takeAll() {
+        for (int d = 0; d < 4; d++) {
+            while (x.waiting(d) > 0) {
+                see("take", x.take(d));
+            }
+        }
+    }
+
+    /** When all devices are on and have room, each message is taken just when its next offer is due. */
+    private void moments() {
+        takeAll();
+        for (int d = 0; d < 4; d++) {
+            x.power(d, true);
+        }
+        for (int k = 0; k < 30; k++) {
+            see("settled", x.advance(k == 0 ? 0 : 1));
+            if (k % 6 == 5) {
+                takeAll();
+            }
+        }
+        for (int m = Math.max(0, messages() - SHOWN_MESSAGES); x.state(m) != SeptetCentre.NONE; m++) {
+            see("message " + m, x.state(m) + ", offered " + x.offers(m));
+        }
+    }
+
     private void emptyUplink() {
         for (int k = 0; k < 8 && receive() != SeptetCentre.NONE; k++) {
             continue;
@@ -107,7 +138,7 @@ final class Portrait {
     private void draftAndCounts() {
         emptyUplink();
         sendFromEach(1);
-        for (int n : new int[] {160, 160, 160, 80, 40, 20, 10, 5, 3, 2, 1, 1}) {
+        for (int n : new int[] {1, 2, 4, 8, 16, 32, 64, 128, 160, 64, 32, 16, 8, 4, 2, 1}) {
             see("type " + n, x.type('a', n));
         }
         x.wipe();
@@ -130,11 +161,7 @@ final class Portrait {
 
     private void devicesAndPiles() {
         emptyUplink();
-        for (int d = 0; d < 4; d++) {
-            while (x.waiting(d) > 0) {
-                see("take", x.take(d));
-            }
-        }
+        takeAll();
         for (int d = 0; d < 4; d++) {
             x.wipe();
             comes(x.send(d, numbers[d], 0, false), d);

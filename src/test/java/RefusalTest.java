@@ -30,9 +30,11 @@ public final class RefusalTest {
     public static void main(String[] args) {
         newObject();
         busy();
+        read();
         alien();
         full();
         fullWithLongDraft();
+        roomForOne();
         roomForTwo();
         hundred();
         illegalTakesOffTheRowAlone();
@@ -238,9 +240,11 @@ public final class RefusalTest {
         }
         x.power(2, true);
         for (int k = 0; k < 6; k++) {
+            x.type('c', 1);
             accept(x, 0, 33, 0);
         }
         x.advance(0);
+        x.wipe();
         for (int k = 0; k < 12; k++) {
             accept(x, k % 2, k < 6 ? 22 : 33, 143);
         }
@@ -282,6 +286,51 @@ public final class RefusalTest {
             x.type('c', 159);
             return x;
         });
+    }
+
+    /** Nothing of what is too much comes to the draft, not even as much as there is room for. */
+    private static void roomForOne() {
+        refusedCheck("type(a, 2), room for one", x -> x.type('a', 2));
+        refusedCheck("type(a, 160), room for one", x -> x.type('a', 160));
+        changeNothing("a draft with room for one", () -> {
+            SeptetCentre x = fullCentre();
+            x.type('a', 160);
+            x.type('b', 160);
+            x.type('c', 158);
+            return x;
+        });
+    }
+
+    /** All inboxes, reports and the uplink are empty, but device 2 is on and has a text and piles. */
+    private static SeptetCentre readCentre() {
+        SeptetCentre x = new SeptetCentre();
+        for (int d = 0; d < 4; d++) {
+            x.register(d, NUMBERS[d]);
+            x.power(d, true);
+        }
+        Steps.sendPart(x, 0, 33, new int[] {1, 2, 1}, "a");
+        x.receive();
+        Steps.sendPart(x, 1, 33, new int[] {2, 3, 3}, "b");
+        x.receive();
+        Steps.draft(x, "hey");
+        accept(x, 0, 33, 0);
+        x.advance(3);
+        x.take(2);
+        x.take(2);
+        x.take(2);
+        x.report(0);
+        return x;
+    }
+
+    private static void read() {
+        emptyUplink();
+        for (int d = 0; d < 4; d++) {
+            emptyInbox(d);
+            emptyReports(d);
+        }
+        refused("text(2, 3), behind the last", -2, x -> x.text(2, 3));
+        refused("state(3), not yet", -2, x -> x.state(3));
+        changeNothing("an object that has been read", RefusalTest::readCentre);
     }
 
     /** Of three parts not even the two come for which there is room. */

@@ -18,8 +18,10 @@ public final class TermsEdgeTest {
         otherChars();
         septetsOfTheTen();
         nobodysBits();
+        nobodysBitsAreRead();
         numbers();
         digitsOfAddresses();
+        digitsThatAreRead();
         oddAddresses();
         times();
         bytesOfUserData();
@@ -212,6 +214,31 @@ public final class TermsEdgeTest {
         due.is("length of the second part", x.byteAt(-1, 8), 15);
     }
 
+    private static void nobodysBitsAreRead() {
+        due.about("LEGAL: Bits that are nobody's are 0");
+        for (int septets : new int[] {1, 2, 6, 7, 8, 9, 15, 16, 153, 159, 160}) {
+            int used = 7 * septets % 8;
+            int last = 8 + (7 * septets + 7) / 8;
+            for (int bit = 0; bit < 8; bit++) {
+                SeptetCentre x = two(7, 8);
+                x.type('@', septets);
+                x.send(0, 8, 0, false);
+                x.alter(last, 1 << bit);
+                boolean nobodys = used != 0 && bit >= used;
+                due.is(septets + " septets, bit " + bit + " of the last byte", x.receive(), nobodys ? ILLEGAL : 0);
+            }
+        }
+        for (int bit = 0; bit < 8; bit++) {
+            for (int septets = 0; septets <= 1; septets++) {
+                SeptetCentre x = two(7, 8);
+                Steps.sendPart(x, 0, 8, new int[] {0, 1, 1}, "@".repeat(septets));
+                x.alter(15, 1 << bit);
+                boolean nobodys = septets == 0 || bit == 0;
+                due.is(septets + " septets behind a header, bit " + (48 + bit), x.receive(), nobodys ? ILLEGAL : 0);
+            }
+        }
+    }
+
     private static void numbers() {
         due.about("A NUMBER of a subscriber is 1 .. 999999999999");
         long[] numbers = {LEAST, MOST};
@@ -271,6 +298,42 @@ public final class TermsEdgeTest {
         addressIs(99999999999L, "11 145 153 153 153 153 153 249");
         addressIs(100000000000L, "12 145 1 0 0 0 0 0");
         addressIs(MOST, "12 145 153 153 153 153 153 153");
+    }
+
+    /** What receive answers to a row for a number of twelve digits whose bytes from the address on are these. */
+    private static void readAs(String what, boolean legal, int... bytes) {
+        SeptetCentre x = two(7, 8);
+        x.type('@', 8);
+        x.send(0, 123456789012L, 0, false);
+        for (int k = 0; k < bytes.length; k++) {
+            Steps.set(x, 2 + k, bytes[k]);
+        }
+        due.is(what, x.receive(), legal ? 0 : ILLEGAL);
+    }
+
+    private static void digitsThatAreRead() {
+        due.about("LEGAL: a byte, how many decimal digits it has; the byte 145; its digits");
+        // The row has 21 bytes: an address of other size leaves more or fewer of them to user data.
+        readAs("no digits", false, 0, 145, 0, 0, 0, 14, 0);
+        readAs("one digit", true, 1, 145, 0xF1, 0, 0, 0, 13);
+        readAs("one digit, 0", false, 1, 145, 0xF0, 0, 0, 0, 13);
+        readAs("two digits", true, 2, 145, 0x01, 0, 0, 0, 13);
+        readAs("two digits, a zero in front", false, 2, 145, 0x10, 0, 0, 0, 13);
+        readAs("eleven digits", true, 11, 145, 0x21, 0x43, 0x65, 0x87, 0x09, 0xF1, 0, 0, 0, 8);
+        readAs("twelve digits", true, 12, 145, 0x21, 0x43, 0x65, 0x87, 0x09, 0x21, 0, 0, 0, 8);
+        readAs("thirteen digits", false, 13, 145, 0x21, 0x43, 0x65, 0x87, 0x09, 0x21, 0xF3, 0, 0, 0, 6);
+        readAs("fourteen digits", false, 14, 145, 0x21, 0x43, 0x65, 0x87, 0x09, 0x21, 0x43, 0, 0, 0, 6);
+        readAs("144", false, 12, 144);
+        readAs("146", false, 12, 146);
+        readAs("a digit 9", true, 12, 145, 0x29);
+        readAs("a digit 10", false, 12, 145, 0x2A);
+        readAs("a digit 9", true, 12, 145, 0x91);
+        readAs("a digit 10", false, 12, 145, 0xA1);
+        readAs("a zero behind the first", true, 12, 145, 0x01);
+        due.about("LEGAL: 0; 0");
+        readAs("0; 0", true, 12, 145, 0x21, 0x43, 0x65, 0x87, 0x09, 0x21, 0, 0);
+        readAs("1; 0", false, 12, 145, 0x21, 0x43, 0x65, 0x87, 0x09, 0x21, 1, 0);
+        readAs("0; 1", false, 12, 145, 0x21, 0x43, 0x65, 0x87, 0x09, 0x21, 0, 1);
     }
 
     private static void oddAddresses() {
@@ -536,6 +599,18 @@ public final class TermsEdgeTest {
         }
         septets(false, 27, 0);
         septets(false, 27, 127);
+        for (int count : new int[] {7, 8, 9, 159, 160}) {
+            int[] codes = new int[count];
+            codes[count - 2] = 27;
+            codes[count - 1] = 10;
+            septets(true, codes);
+            codes[count - 1] = 11;
+            septets(false, codes);
+            codes[count - 2] = 0;
+            septets(true, codes);
+            codes[count - 1] = 27;
+            septets(false, codes);
+        }
     }
 
     private static void devicesAtFirst() {
