@@ -133,6 +133,13 @@ public final class RefusalTest {
         refused("byteAt(" + (4 + d) + ", 0), none", -2, x -> x.byteAt(4 + d, 0));
     }
 
+    private static void refusedSends(int devices, String why, int answer) {
+        for (int d = 0; d < devices; d++) {
+            int device = d;
+            refused("send(" + d + ", 33, 0, true), " + why, answer, x -> x.send(device, 33, 0, true));
+        }
+    }
+
     private static void emptyUplink() {
         refusedCheck("alter(0, 1), none", x -> x.alter(0, 1));
         refused("receive(), none", -2, x -> x.receive());
@@ -142,11 +149,10 @@ public final class RefusalTest {
     private static void newObject() {
         emptyUplink();
         for (int d = 0; d < 4; d++) {
-            int device = d;
             emptyInbox(d);
             emptyReports(d);
-            refused("send(" + d + ", 33, 0, true), no number", -1, x -> x.send(device, 33, 0, true));
         }
+        refusedSends(4, "no number", -1);
         refused("state(0)", -2, x -> x.state(0));
         refused("offers(0)", -2, x -> x.offers(0));
         changeNothing("a new object", SeptetCentre::new);
@@ -221,10 +227,7 @@ public final class RefusalTest {
     }
 
     private static void alien() {
-        for (int d = 0; d < 3; d++) {
-            int device = d;
-            refused("send(" + d + ", 33, 0, true), alien", -4, x -> x.send(device, 33, 0, true));
-        }
+        refusedSends(3, "alien", -4);
         changeNothing("a draft with a character of no alphabet", () -> {
             SeptetCentre x = busyCentre();
             x.type('`', 1);
@@ -265,40 +268,30 @@ public final class RefusalTest {
         }
         refused("receive(), twelve wait", -3, y -> y.receive());
         refusedCheck("copy(2), no room", y -> y.copy(2));
-        for (int d = 0; d < 4; d++) {
-            int device = d;
-            refused("send(" + d + ", 33, 0, true), no room", -3, y -> y.send(device, 33, 0, true));
-        }
+        refusedSends(4, "no room", -3);
         changeNothing("a full object", RefusalTest::fullCentre);
     }
 
     private static void fullWithLongDraft() {
-        for (int d = 0; d < 4; d++) {
-            int device = d;
-            refused("send(" + d + ", 33, 0, true), long", -5, x -> x.send(device, 33, 0, true));
-        }
+        refusedSends(4, "long", -5);
         refusedCheck("type(a, 1), no room", x -> x.type('a', 1));
         refusedCheck("type(a, 160), no room", x -> x.type('a', 160));
-        changeNothing("a full draft", () -> {
-            SeptetCentre x = fullCentre();
-            x.type('a', 160);
-            x.type('b', 160);
-            x.type('c', 159);
-            return x;
-        });
+        changeNothing("a full draft", () -> withLongDraft(fullCentre(), 159));
+    }
+
+    /** Adds 320 characters and so many more to the draft. */
+    private static SeptetCentre withLongDraft(SeptetCentre x, int more) {
+        x.type('a', 160);
+        x.type('b', 160);
+        x.type('c', more);
+        return x;
     }
 
     /** Nothing of what is too much comes to the draft, not even as much as there is room for. */
     private static void roomForOne() {
         refusedCheck("type(a, 2), room for one", x -> x.type('a', 2));
         refusedCheck("type(a, 160), room for one", x -> x.type('a', 160));
-        changeNothing("a draft with room for one", () -> {
-            SeptetCentre x = fullCentre();
-            x.type('a', 160);
-            x.type('b', 160);
-            x.type('c', 158);
-            return x;
-        });
+        changeNothing("a draft with room for one", () -> withLongDraft(fullCentre(), 158));
     }
 
     /** All inboxes, reports and the uplink are empty, but device 2 is on and has a text and piles. */
@@ -335,10 +328,7 @@ public final class RefusalTest {
 
     /** Of three parts not even the two come for which there is room. */
     private static void roomForTwo() {
-        for (int d = 0; d < 4; d++) {
-            int device = d;
-            refused("send(" + d + ", 33, 0, true), three for two", -3, x -> x.send(device, 33, 0, true));
-        }
+        refusedSends(4, "three for two", -3);
         changeNothing("room for two of three parts", () -> {
             SeptetCentre x = new SeptetCentre();
             for (int d = 0; d < 4; d++) {
